@@ -9,33 +9,63 @@ final class KnowingTest {
 
     public static void main(String[] args) {
         underInRing();
+        anEventIsUnderItself();
+        underOfNoEventIsBad();
+
         wellUnderInRing();
         wellUnderCountsMembersNotEvents();
+        noEventIsWellUnderItself();
+        wellUnderOfNoEventIsBad();
+
         roundsInRing();
         roundsInRingOfThree();
+        firstEventsAreOfRoundOne();
+        twoWitnessesMakeNoRound();
+        fourWitnessesMakeARound();
         twoMembersStayInRoundOne();
         lateMemberSkipsRounds();
-        wrongNumbersAreBad();
+        roundOfNoEventIsBad();
+        witnessOfNoEventIsBad();
+
+        witnessesInRing();
+        witnessesOfARoundOfNoEventAreNone();
         Check.end();
     }
 
     private static void underInRing() {
-        GossipOrder order = Runs.ring(48, 0);
+        Subject order = new Subject(48, () -> Runs.ring(48, 0));
         int[][] early = {{0}, {1}, {2}, {3}, {0, 3, 4}, {0, 1, 3, 4, 5}};
         for (int y = 0; y < 48; y++) {
             for (int x = 0; x < 48; x++) {
                 boolean due = y < early.length ? Arrays.binarySearch(early[y], x) >= 0 : x <= y;
-                Check.due("ring: under(" + x + ", " + y + ")", order.under(x, y), due ? 1 : 0);
+                Check.due("ring: under(" + x + ", " + y + ")", order.ask().under(x, y), due ? 1 : 0);
             }
         }
     }
 
+    private static void anEventIsUnderItself() {
+        GossipOrder order = new GossipOrder();
+        for (int n = 0; n < 48; n++) {
+            Runs.stepRing(order, 4, n, 0);
+            Check.due("itself: under(" + n + ", " + n + ")", order.under(n, n), 1);
+        }
+    }
+
+    private static void underOfNoEventIsBad() {
+        Edges.askOfNoEvent("under(0, x): x = ", (order, x) -> order.under(0, x), BAD);
+        Edges.askOfNoEvent("under(x, 0): x = ", (order, x) -> order.under(x, 0), BAD);
+        Edges.askOfNoEvent("under(x, x): x = ", (order, x) -> order.under(x, x), BAD);
+        GossipOrder order = Runs.ring(16, 0);
+        Check.due("ends: under(0, 15)", order.under(0, 15), 1);
+        Check.due("ends: under(15, 0)", order.under(15, 0), 0);
+    }
+
     private static void wellUnderInRing() {
-        GossipOrder order = Runs.ring(48, 0);
+        Subject order = new Subject(48, () -> Runs.ring(48, 0));
         for (int x = 0; x < 48; x++) {
             int first = x < 3 ? x + 6 : x + 2;
             for (int y = 0; y < 48; y++) {
-                Check.due("ring: wellUnder(" + x + ", " + y + ")", order.wellUnder(x, y), y >= first ? 1 : 0);
+                Check.due("ring: wellUnder(" + x + ", " + y + ")", order.ask().wellUnder(x, y), y >= first ? 1 : 0);
             }
         }
     }
@@ -59,21 +89,28 @@ final class KnowingTest {
         Check.due("three members, but two above: wellUnder", order.wellUnder(4, 8), 0);
     }
 
+    private static void noEventIsWellUnderItself() {
+        GossipOrder order = Runs.ring(48, 0);
+        for (int x = 0; x < 48; x++) {
+            Check.due("itself: wellUnder(" + x + ", " + x + ")", order.wellUnder(x, x), 0);
+        }
+    }
+
+    private static void wellUnderOfNoEventIsBad() {
+        Edges.askOfNoEvent("wellUnder(0, x): x = ", (order, x) -> order.wellUnder(0, x), BAD);
+        Edges.askOfNoEvent("wellUnder(x, 0): x = ", (order, x) -> order.wellUnder(x, 0), BAD);
+        Edges.askOfNoEvent("wellUnder(x, x): x = ", (order, x) -> order.wellUnder(x, x), BAD);
+        GossipOrder order = Runs.ring(16, 0);
+        Check.due("ends: wellUnder(0, 15)", order.wellUnder(0, 15), 1);
+        Check.due("ends: wellUnder(15, 0)", order.wellUnder(15, 0), 0);
+    }
+
     private static void roundsInRing() {
         GossipOrder order = Runs.ring(48, 0);
         for (int x = 0; x < 48; x++) {
             Check.due("ring: round(" + x + ")", order.round(x), x < 7 ? 1 : (x - 7) / 4 + 2);
             Check.due("ring: witness(" + x + ")", order.witness(x), x >= 4 && x <= 6 ? 0 : 1);
         }
-        for (int round = 1; round <= 11; round++) {
-            Check.due("ring: witnesses(" + round + ")", order.witnesses(round), 4);
-        }
-        Check.due("ring: witnesses of the last round", order.witnesses(12), 1);
-        Check.due("ring: witnesses(0)", order.witnesses(0), 0);
-        Check.due("ring: witnesses(13)", order.witnesses(13), 0);
-        Check.due("ring: witnesses(-1)", order.witnesses(-1), 0);
-        Check.due("ring: witnesses(least)", order.witnesses(Integer.MIN_VALUE), 0);
-        Check.due("ring: witnesses(greatest)", order.witnesses(Integer.MAX_VALUE), 0);
     }
 
     private static void roundsInRingOfThree() {
@@ -85,6 +122,41 @@ final class KnowingTest {
         }
         Check.due("three: witnesses(1)", order.witnesses(1), 3);
         Check.due("three: witnesses(2)", order.witnesses(2), 3);
+    }
+
+    private static void firstEventsAreOfRoundOne() {
+        GossipOrder order = Runs.ringOfThree(40, 0);
+        order.alone(3, 0, false);
+        for (int x : new int[] {0, 1, 2, 40}) {
+            Check.due("first event: round(" + x + ")", order.round(x), 1);
+            Check.due("first event: witness(" + x + ")", order.witness(x), 1);
+        }
+    }
+
+    /** Of the three first events, one is well under event 4, two are well under 5, all are well under 6. */
+    private static void twoWitnessesMakeNoRound() {
+        GossipOrder order = Runs.ringOfThree(6, 0);
+        int[][] wellUnder = {{4, 0, 0}, {4, 1, 0}, {4, 2, 1}, {5, 0, 1}, {5, 1, 0}, {5, 2, 1}};
+        for (int[] due : wellUnder) {
+            Check.due("two: wellUnder(" + due[1] + ", " + due[0] + ")", order.wellUnder(due[1], due[0]), due[2]);
+        }
+        Check.due("one well under it: round(4)", order.round(4), 1);
+        Check.due("two well under it: round(5)", order.round(5), 1);
+        Runs.stepRing(order, 3, 6, 0);
+        Check.due("the third too: wellUnder(1, 6)", order.wellUnder(1, 6), 1);
+        Check.due("three well under it: round(6)", order.round(6), 2);
+    }
+
+    private static void fourWitnessesMakeARound() {
+        GossipOrder order = Runs.play(Runs.FOUR_AT_ONCE, 9, false);
+        for (int x = 0; x < 4; x++) {
+            Check.due("four: wellUnder(" + x + ", 7)", order.wellUnder(x, 7), x == 3 ? 1 : 0);
+            Check.due("four: wellUnder(" + x + ", 8)", order.wellUnder(x, 8), 1);
+        }
+        Check.due("four: round(7)", order.round(7), 1);
+        Check.due("four: round(8)", order.round(8), 2);
+        Check.due("four: witness(7)", order.witness(7), 0);
+        Check.due("four: witness(8)", order.witness(8), 1);
     }
 
     private static void twoMembersStayInRoundOne() {
@@ -120,17 +192,29 @@ final class KnowingTest {
         Check.due("late: 16 too: round 5", order.round(23), 5);
     }
 
-    private static void wrongNumbersAreBad() {
-        GossipOrder order = Runs.ring(12, 0);
-        int[] wrong = {-1, 12, 48, 63, 64, 76, Integer.MIN_VALUE, Integer.MAX_VALUE};
-        for (int x : wrong) {
-            Check.due("bad: under(" + x + ", 3)", order.under(x, 3), BAD);
-            Check.due("bad: under(3, " + x + ")", order.under(3, x), BAD);
-            Check.due("bad: under(" + x + ", " + x + ")", order.under(x, x), BAD);
-            Check.due("bad: wellUnder(" + x + ", 3)", order.wellUnder(x, 3), BAD);
-            Check.due("bad: wellUnder(3, " + x + ")", order.wellUnder(3, x), BAD);
-            Check.due("bad: round(" + x + ")", order.round(x), BAD);
-            Check.due("bad: witness(" + x + ")", order.witness(x), BAD);
+    private static void roundOfNoEventIsBad() {
+        Edges.askOfNoEvent("round", GossipOrder::round, BAD);
+    }
+
+    private static void witnessOfNoEventIsBad() {
+        Edges.askOfNoEvent("witness", GossipOrder::witness, BAD);
+    }
+
+    private static void witnessesInRing() {
+        GossipOrder order = Runs.ring(48, 0);
+        for (int round = 1; round <= 11; round++) {
+            Check.due("ring: witnesses(" + round + ")", order.witnesses(round), 4);
+        }
+        Check.due("ring: witnesses of the last round", order.witnesses(12), 1);
+    }
+
+    private static void witnessesOfARoundOfNoEventAreNone() {
+        for (int count : new int[] {0, 1, 7, 8, 48}) {
+            GossipOrder order = Runs.ring(count, 0);
+            int greatest = count == 0 ? 0 : order.round(count - 1);
+            for (int round : new int[] {0, -1, -2, greatest + 1, greatest + 2, 48, 64, 65, Edges.LEAST, Edges.MOST}) {
+                Check.due(count + " events: witnesses(" + round + ")", order.witnesses(round), 0);
+            }
         }
     }
 }

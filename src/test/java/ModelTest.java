@@ -1,3 +1,4 @@
+import java.util.ArrayList;
 import java.util.List;
 import java.util.Random;
 
@@ -25,26 +26,62 @@ final class ModelTest {
     }
 
     private static void play(int run, Random random) {
-        GossipOrder order = new GossipOrder();
         Model model = new Model();
+        List<Call> calls = new ArrayList<>();
+        int[] deciders = {};
         int[][] opening = Runs.RARE[run / 2 % Runs.RARE.length];
         int start = run % 2 == 0 ? opening.length - random.nextInt(20) : 0;
         int silent = run % 3 == 0 ? random.nextInt(4) : -1;
         int events = run % 4 == 0 ? 50 : 20 + random.nextInt(29);
-        for (int call = 0; call < events; call++) {
-            int[] deciders = deciders(order);
-            String what = "run " + run + ", call " + call;
-            refuse(what, order, model, random);
-            int time = time(random, call, run);
-            boolean coin = random.nextBoolean();
-            int[] next = call < start ? opening[call] : choose(order, random, silent, call);
-            int due = next[1] < 0 ? model.alone(next[0], time, coin) : model.gossip(next[0], next[1], time, coin);
-            Check.due(what, Runs.step(order, next, time, coin), due);
-            compare(what, order, model);
+        for (int n = 0; n < events; n++) {
+            add(calls, model, refused(model, random));
+            int time = time(random, n, run);
+            int[] next = n < start ? opening[n] : choose(model, random, silent);
+            add(calls, model, new Call(next[1] < 0, next[0], next[1], time, random.nextBoolean()));
+            Subject order = new Subject(calls.size(), () -> replay(calls));
+            compare("run " + run + ", event " + n, order, model);
             countMoved(order, deciders);
+            deciders = deciders(order, model);
         }
+        Subject order = new Subject(calls.size(), () -> replay(calls));
         comparePairs("run " + run, order, model);
         countEdges(order, model);
+    }
+
+    private static final class Call {
+        final boolean alone;
+        final int member;
+        final int other;
+        final int time;
+        final boolean coin;
+        int due;
+
+        Call(boolean alone, int member, int other, int time, boolean coin) {
+            this.alone = alone;
+            this.member = member;
+            this.other = other;
+            this.time = time;
+            this.coin = coin;
+        }
+    }
+
+    private static void add(List<Call> calls, Model model, Call call) {
+        call.due = call.alone
+                ? model.alone(call.member, call.time, call.coin)
+                : model.gossip(call.member, call.other, call.time, call.coin);
+        calls.add(call);
+    }
+
+    private static GossipOrder replay(List<Call> calls) {
+        GossipOrder order = new GossipOrder();
+        for (Call call : calls) {
+            int answer = call.alone
+                    ? order.alone(call.member, call.time, call.coin)
+                    : order.gossip(call.member, call.other, call.time, call.coin);
+            String name = call.alone ? "alone(" + call.member : "gossip(" + call.member + ", " + call.other;
+            Check.due(order.events() + " events: " + name + ")", answer, call.due);
+        }
+        return order;
     }
 
     private static int time(Random random, int call, int run) {
@@ -55,123 +92,123 @@ final class ModelTest {
     }
 
     /** A silent member makes its events rarely, so that it comes late to its rounds. */
-    private static int[] choose(GossipOrder order, Random random, int silent, int call) {
+    private static int[] choose(Model model, Random random, int silent) {
         int member = random.nextInt(4);
         if (member == silent && random.nextInt(8) != 0) {
             member = (member + 1 + random.nextInt(3)) % 4;
         }
         int from = (member + 1 + random.nextInt(3)) % 4;
-        int other = order.latest(from);
-        if (random.nextInt(10) == 0 && call > 0) {
-            other = random.nextInt(call);
+        int other = model.latest(from);
+        if (random.nextInt(10) == 0 && !model.events.isEmpty()) {
+            other = random.nextInt(model.events.size());
         }
-        boolean alone = order.latest(member) < 0 || other < 0 || random.nextInt(20) == 0;
+        boolean alone = model.latest(member) < 0 || other < 0 || random.nextInt(20) == 0;
         return new int[] {member, alone ? -1 : other};
     }
 
-    private static void refuse(String what, GossipOrder order, Model model, Random random) {
+    private static Call refused(Model model, Random random) {
+        int count = model.events.size();
+        int member = random.nextInt(4);
         int wrong = random.nextBoolean() ? 4 + random.nextInt(9) : -1 - random.nextInt(9);
-        Check.due(what + ": alone of no member", order.alone(wrong, 5, true), model.alone(wrong, 5, true));
-        int count = order.events();
-        Check.due(what + ": gossip of no member", order.gossip(wrong, 0, 5, true), model.gossip(wrong, 0, 5, true));
-        Check.due(what + ": gossip of no event", order.gossip(0, count, 5, true), model.gossip(0, count, 5, true));
-        for (int member = 0; member < 4; member++) {
-            int own = order.latest(member);
-            int from = count == 0 ? 0 : random.nextInt(count);
-            boolean refused = own == GossipOrder.NONE || count == 48;
-            int other = refused ? from : own;
-            String call = what + ": gossip(" + member + ", " + other + ")";
-            Check.due(call, order.gossip(member, other, 5, true), model.gossip(member, other, 5, true));
-        }
+        int own = model.latest(member);
+        boolean ready = own != Model.NONE && count < 48;
+        int other = ready || count == 0 ? own : random.nextInt(count);
+        return switch (random.nextInt(4)) {
+            case 0 -> new Call(true, wrong, 0, 5, true);
+            case 1 -> new Call(false, wrong, count / 2, 5, true);
+            case 2 -> new Call(false, member, random.nextBoolean() ? count : -1, 5, true);
+            default -> new Call(false, member, other, 5, true);
+        };
     }
 
-    private static void compare(String what, GossipOrder order, Model model) {
+    private static void compare(String what, Subject order, Model model) {
         int count = model.events.size();
-        Check.due(what + ": events()", order.events(), count);
+        Check.due(what + ": events()", order.ask().events(), count);
         for (int member = -1; member <= 4; member++) {
-            Check.due(what + ": latest(" + member + ")", order.latest(member), model.latest(member));
+            Check.due(what + ": latest(" + member + ")", order.ask().latest(member), model.latest(member));
         }
         for (int x = -1; x <= count; x++) {
-            Check.due(what + ": round(" + x + ")", order.round(x), model.round(x));
-            Check.due(what + ": witness(" + x + ")", order.witness(x), model.witness(x));
-            Check.due(what + ": fame(" + x + ")", order.fame(x), model.fame(x));
-            Check.due(what + ": decider(" + x + ")", order.decider(x), model.decider(x));
+            Check.due(what + ": round(" + x + ")", order.ask().round(x), model.round(x));
+            Check.due(what + ": witness(" + x + ")", order.ask().witness(x), model.witness(x));
+            Check.due(what + ": fame(" + x + ")", order.ask().fame(x), model.fame(x));
+            Check.due(what + ": decider(" + x + ")", order.ask().decider(x), model.decider(x));
         }
         for (int round = -1; round <= 14; round++) {
-            Check.due(what + ": witnesses(" + round + ")", order.witnesses(round), model.witnesses(round));
+            Check.due(what + ": witnesses(" + round + ")", order.ask().witnesses(round), model.witnesses(round));
         }
-        Check.due(what + ": settled()", order.settled(), model.settled());
+        Check.due(what + ": settled()", order.ask().settled(), model.settled());
         compareOrder(what, order, model.order(), count);
     }
 
-    private static void compareOrder(String what, GossipOrder order, List<Model.Place> due, int count) {
+    private static void compareOrder(String what, Subject order, List<Model.Place> due, int count) {
         boolean[] received = new boolean[count];
         int digest = 0;
-        Check.due(what + ": ordered()", order.ordered(), due.size());
+        Check.due(what + ": ordered()", order.ask().ordered(), due.size());
         for (int k = 0; k < due.size(); k++) {
             Model.Place place = due.get(k);
             int x = place.event().number;
             received[x] = true;
             digest += (k + 1) * (x + 1);
-            Check.due(what + ": orderAt(" + k + ")", order.orderAt(k), x);
-            Check.due(what + ": placeOf(" + x + ")", order.placeOf(x), k);
-            Check.due(what + ": received(" + x + ")", order.received(x), place.received());
-            Check.due(what + ": finalTime(" + x + ")", order.finalTime(x), place.finalTime());
+            Check.due(what + ": orderAt(" + k + ")", order.ask().orderAt(k), x);
+            Check.due(what + ": placeOf(" + x + ")", order.ask().placeOf(x), k);
+            Check.due(what + ": received(" + x + ")", order.ask().received(x), place.received());
+            Check.due(what + ": finalTime(" + x + ")", order.ask().finalTime(x), place.finalTime());
         }
-        Check.due(what + ": orderAt behind the end", order.orderAt(due.size()), GossipOrder.NONE);
-        Check.due(what + ": digest()", order.digest(), digest);
+        Check.due(what + ": orderAt behind the end", order.ask().orderAt(due.size()), GossipOrder.NONE);
+        Check.due(what + ": digest()", order.ask().digest(), digest);
         for (int x = 0; x < count; x++) {
             if (!received[x]) {
-                Check.due(what + ": placeOf(" + x + ")", order.placeOf(x), GossipOrder.NONE);
-                Check.due(what + ": received(" + x + ")", order.received(x), GossipOrder.NONE);
-                Check.due(what + ": finalTime(" + x + ")", order.finalTime(x), 0);
+                Check.due(what + ": placeOf(" + x + ")", order.ask().placeOf(x), GossipOrder.NONE);
+                Check.due(what + ": received(" + x + ")", order.ask().received(x), GossipOrder.NONE);
+                Check.due(what + ": finalTime(" + x + ")", order.ask().finalTime(x), 0);
             }
         }
     }
 
-    private static void comparePairs(String what, GossipOrder order, Model model) {
+    private static void comparePairs(String what, Subject order, Model model) {
         int count = model.events.size();
         for (int x = -1; x <= count; x++) {
             for (int y = -1; y <= count; y++) {
                 String pair = "(" + x + ", " + y + ")";
-                Check.due(what + ": under" + pair, order.under(x, y), model.under(x, y));
-                Check.due(what + ": wellUnder" + pair, order.wellUnder(x, y), model.wellUnder(x, y));
+                Check.due(what + ": under" + pair, order.ask().under(x, y), model.under(x, y));
+                Check.due(what + ": wellUnder" + pair, order.ask().wellUnder(x, y), model.wellUnder(x, y));
             }
         }
     }
 
-    private static int[] deciders(GossipOrder order) {
-        int[] found = new int[order.events()];
+    private static int[] deciders(Subject order, Model model) {
+        int[] found = new int[model.events.size()];
         for (int x = 0; x < found.length; x++) {
-            found[x] = order.decider(x);
+            found[x] = order.ask().decider(x);
         }
         return found;
     }
 
-    private static void countMoved(GossipOrder order, int[] before) {
+    private static void countMoved(Subject order, int[] before) {
         for (int x = 0; x < before.length; x++) {
-            if (before[x] >= 0 && before[x] != order.decider(x)) {
+            if (before[x] >= 0 && before[x] != order.ask().decider(x)) {
                 movedDeciders++;
             }
         }
     }
 
-    private static void countEdges(GossipOrder order, Model model) {
+    private static void countEdges(Subject order, Model model) {
         coinVotes += model.coinVotes;
         undecidingMajorities += model.undecidingMajorities;
         int[] famous = new int[50];
         for (Model.Event event : model.events) {
-            notFamous += order.fame(event.number) == 1 ? 1 : 0;
-            famous[event.round] += order.fame(event.number) == 2 ? 1 : 0;
+            notFamous += order.ask().fame(event.number) == 1 ? 1 : 0;
+            famous[event.round] += order.ask().fame(event.number) == 2 ? 1 : 0;
             gapsInRounds += event.own != null && event.round > event.own.round + 1 ? 1 : 0;
         }
-        for (int round = 1; round <= order.settled(); round++) {
+        for (int round = 1; round <= order.ask().settled(); round++) {
             famousInSettled[famous[round]]++;
         }
-        for (int k = 1; k < order.ordered(); k++) {
-            int a = order.orderAt(k - 1);
-            int b = order.orderAt(k);
-            boolean tie = order.received(a) == order.received(b) && order.finalTime(a) == order.finalTime(b);
+        for (int k = 1; k < order.ask().ordered(); k++) {
+            int a = order.ask().orderAt(k - 1);
+            int b = order.ask().orderAt(k);
+            boolean tie = order.ask().received(a) == order.ask().received(b)
+                    && order.ask().finalTime(a) == order.ask().finalTime(b);
             sharedFinalTimes += tie ? 1 : 0;
         }
     }

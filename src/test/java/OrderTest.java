@@ -2,23 +2,39 @@
 final class OrderTest {
     private static final int BAD = GossipOrder.BAD;
     private static final int NONE = GossipOrder.NONE;
-    private static final int LEAST = Integer.MIN_VALUE;
-    private static final int MOST = Integer.MAX_VALUE;
+    private static final int LEAST = Edges.LEAST;
+    private static final int MOST = Edges.MOST;
 
     private OrderTest() {
     }
 
     public static void main(String[] args) {
         receivedInRing();
-        orderInRing();
-        orderOfThree();
-        timesAtTheEnds();
-        orderGrows();
-        wrongNumbers();
+        aSettledRoundMayReceiveNone();
+        aWitnessThatIsNotFamousCountsForNothing();
+        receivedOfNoEventIsBad();
+        receivedOfAnEventNotReceivedIsNone();
+
+        finalTimeIsTheUpperMiddleOfFour();
+        finalTimeIsTheMiddleOfThree();
+        finalTimeTakesTheEarliestByNumber();
+        finalTimeMayBeOfTheFamousThemselves();
+        finalTimesAtTheEnds();
+        finalTimeOfNoEventIs0();
+        finalTimeOfAnEventNotReceivedIs0();
+
+        theRoundComesBeforeTheFinalTime();
+        theNumberComesLast();
+        orderedIs0AtFirst();
+        orderAtNoPlaceIsNone();
+        placeOfNoEventIsBad();
+        placeOfAnEventNotReceivedIsNone();
+
+        digestOfNoOrderIs0();
+        digestOfTheLongestRing();
         Check.end();
     }
 
-    /** Round 1 settles first, but no event is under all the first events: it receives none. */
     private static void receivedInRing() {
         GossipOrder order = new GossipOrder();
         for (int n = 0; n < 48; n++) {
@@ -30,9 +46,19 @@ final class OrderTest {
             int due = x < 8 ? 2 : (x - 8) / 4 + 3;
             Check.due("ring: received(" + x + ")", order.received(x), x < 40 ? due : NONE);
             Check.due("ring: finalTime(" + x + ")", order.finalTime(x), x < 40 ? 7 : 0);
-            Check.due("ring: placeOf(" + x + ")", order.placeOf(x), x < 40 ? x : NONE);
-            Check.due("ring: orderAt(" + x + ")", order.orderAt(x), x < 40 ? x : NONE);
         }
+    }
+
+    /** Round 1 settles first, but no event is under all the first events. */
+    private static void aSettledRoundMayReceiveNone() {
+        GossipOrder order = Runs.ring(12, 7);
+        Check.due("round 1: settled", order.settled(), 1);
+        Check.due("round 1: ordered", order.ordered(), 0);
+        Check.due("round 1: received(0)", order.received(0), NONE);
+        Check.due("round 1: placeOf(0)", order.placeOf(0), NONE);
+        Check.due("round 1: finalTime(0)", order.finalTime(0), 0);
+        Check.due("round 1: orderAt(0)", order.orderAt(0), NONE);
+        Check.due("round 1: digest", order.digest(), 0);
     }
 
     private static void checkOrder(String what, GossipOrder order, int[] events, int[] times) {
@@ -53,30 +79,71 @@ final class OrderTest {
      * The famous witnesses of round 2 are 7, 8, 9, 10. Of event 0, say, their makers
      * know since 7, 0, 5 and 6: in order 0, 50, 60, 70, so its final time is 60.
      */
-    private static void orderInRing() {
+    private static void finalTimeIsTheUpperMiddleOfFour() {
         GossipOrder order = Runs.ring(20, Runs.tens());
         int[] events = {3, 0, 4, 1, 5, 2, 6, 7, 8, 9, 10, 11};
         int[] times = {50, 60, 60, 70, 70, 80, 80, 90, 100, 110, 120, 130};
-        checkOrder("tens: ", order, events, times);
-
-        GossipOrder before = Runs.ring(19, Runs.tens());
-        Check.due("tens: digest of round 2", before.digest(), 190);
+        checkOrder("four: ", order, events, times);
+        Check.due("four: digest of round 2", Runs.ring(19, Runs.tens()).digest(), 190);
     }
 
-    /** Three famous witnesses, 6, 7, 8: the middle one of three times. */
-    private static void orderOfThree() {
+    /** Three famous witnesses, 6, 7, 8. */
+    private static void finalTimeIsTheMiddleOfThree() {
         GossipOrder order = Runs.ringOfThree(15, Runs.tens());
         int[] events = {2, 0, 3, 1, 4, 5, 6};
         int[] times = {30, 40, 40, 50, 50, 60, 70};
         checkOrder("three: ", order, events, times);
-
-        order.alone(3, 0, false);
-        checkOrder("three, and a late first event: ", order, events, times);
-        Check.due("late: received", order.received(15), NONE);
-        Check.due("late: placeOf", order.placeOf(15), NONE);
     }
 
-    private static void timesAtTheEnds() {
+    /** Events 15 and 16 are late witnesses of rounds 1 and 2: nothing that is ordered is under them. */
+    private static void aWitnessThatIsNotFamousCountsForNothing() {
+        GossipOrder order = Runs.ringOfThree(15, Runs.tens());
+        order.alone(3, LEAST, false);
+        order.gossip(3, 6, LEAST, false);
+        Check.due("late: a witness", order.witness(16), 1);
+        Check.due("late: of round 2", order.round(16), 2);
+        Check.due("late: fame(15)", order.fame(15), 1);
+        Check.due("late: fame(16)", order.fame(16), 1);
+        Check.due("late: settled", order.settled(), 2);
+        int[] events = {2, 0, 3, 1, 4, 5, 6};
+        int[] times = {30, 40, 40, 50, 50, 60, 70};
+        checkOrder("late: ", order, events, times);
+        Check.due("late: received(15)", order.received(15), NONE);
+        Check.due("late: received(16)", order.received(16), NONE);
+    }
+
+    private static void receivedOfNoEventIsBad() {
+        Edges.askOfNoEvent("received", GossipOrder::received, BAD);
+    }
+
+    private static void receivedOfAnEventNotReceivedIsNone() {
+        for (int count : new int[] {1, 4, 15, 16, 47, 48}) {
+            GossipOrder order = Runs.ring(count, 9);
+            Check.due(count + " events: received(last)", order.received(count - 1), NONE);
+        }
+        Check.due("the last received: received(7)", Runs.ring(16, 9).received(7), 2);
+        Check.due("behind it: received(8)", Runs.ring(16, 9).received(8), NONE);
+    }
+
+    /** As before, but of the times 0, -5, -6, -7 since when event 0 is known the middle one is -5. */
+    private static void finalTimeTakesTheEarliestByNumber() {
+        Check.due("falling: finalTime(0)", Runs.ring(16, falling()).finalTime(0), -5);
+    }
+
+    private static int[] falling() {
+        int[] times = new int[48];
+        for (int n = 0; n < 48; n++) {
+            times[n] = -n;
+        }
+        return times;
+    }
+
+    /** The makers of 7, 8, 9, 10 know of event 7 by these: all their other events under them are before it. */
+    private static void finalTimeMayBeOfTheFamousThemselves() {
+        Check.due("themselves: finalTime(7)", Runs.ring(16, Runs.tens()).finalTime(7), 90);
+    }
+
+    private static void finalTimesAtTheEnds() {
         int[] at = new int[48];
         for (int n = 0; n < 48; n++) {
             at[n] = n <= 6 ? LEAST + n : MOST - n;
@@ -86,45 +153,96 @@ final class OrderTest {
         int[] events = {3, 0, 4, 1, 2, 5, 6, 7};
         int[] times = {LEAST + 5, LEAST + 6, LEAST + 6, late, late, late, late, late};
         checkOrder("ends: ", order, events, times);
+        Check.due("all least: finalTime", Runs.ring(16, LEAST).finalTime(0), LEAST);
+        Check.due("all greatest: finalTime", Runs.ring(16, MOST).finalTime(0), MOST);
     }
 
-    /** The round comes before the final time: times that fall put no later round in front. */
-    private static void orderGrows() {
-        int[] falling = new int[48];
-        for (int n = 0; n < 48; n++) {
-            falling[n] = -n;
+    private static void finalTimeOfNoEventIs0() {
+        Edges.askOfNoEvent("finalTime", GossipOrder::finalTime, 0);
+    }
+
+    private static void finalTimeOfAnEventNotReceivedIs0() {
+        for (int count : new int[] {1, 4, 15, 16, 47, 48}) {
+            GossipOrder order = Runs.ring(count, 9);
+            Check.due(count + " events: finalTime(last)", order.finalTime(count - 1), 0);
         }
-        GossipOrder order = new GossipOrder();
-        int[] seen = new int[48];
-        int count = 0;
-        for (int n = 0; n < 48; n++) {
-            Runs.stepRing(order, 4, n, falling[n]);
-            for (int k = 0; k < count; k++) {
-                Check.due("falling: orderAt(" + k + ") after " + n, order.orderAt(k), seen[k]);
-            }
-            for (; count < order.ordered(); count++) {
-                seen[count] = order.orderAt(count);
-            }
-        }
-        int[] round3 = {11, 10, 9, 8};
-        for (int k = 0; k < 4; k++) {
-            Check.due("falling: orderAt(" + (8 + k) + ")", order.orderAt(8 + k), round3[k]);
-            Check.due("falling: finalTime(" + round3[k] + ")", order.finalTime(round3[k]), k - 12);
+        Check.due("the last received: finalTime(7)", Runs.ring(16, 9).finalTime(7), 9);
+        Check.due("behind it: finalTime(8)", Runs.ring(16, 9).finalTime(8), 0);
+    }
+
+    /** From round 3 on the four events of a round are known since the four events from each on. */
+    private static void theRoundComesBeforeTheFinalTime() {
+        GossipOrder order = Runs.ring(48, falling());
+        for (int k = 8; k < 40; k++) {
+            int due = k / 4 * 4 + 3 - k % 4;
+            Check.due("falling: orderAt(" + k + ")", order.orderAt(k), due);
+            Check.due("falling: placeOf(" + due + ")", order.placeOf(due), k);
+            Check.due("falling: finalTime(" + due + ")", order.finalTime(due), -due - 1);
+            Check.due("falling: received(" + due + ")", order.received(due), due / 4 + 1);
         }
     }
 
-    private static void wrongNumbers() {
-        GossipOrder order = Runs.ring(16, 5);
-        int[] wrong = {-1, 16, 48, 64, LEAST, MOST};
-        for (int x : wrong) {
-            Check.due("bad: received(" + x + ")", order.received(x), BAD);
-            Check.due("bad: finalTime(" + x + ")", order.finalTime(x), 0);
-            Check.due("bad: placeOf(" + x + ")", order.placeOf(x), BAD);
-            Check.due("bad: orderAt(" + x + ")", order.orderAt(x), NONE);
+    private static void theNumberComesLast() {
+        GossipOrder order = Runs.ring(48, 7);
+        for (int x = 0; x < 48; x++) {
+            Check.due("one time: placeOf(" + x + ")", order.placeOf(x), x < 40 ? x : NONE);
+            Check.due("one time: orderAt(" + x + ")", order.orderAt(x), x < 40 ? x : NONE);
         }
-        Check.due("not received: received", order.received(8), NONE);
-        Check.due("not received: finalTime", order.finalTime(8), 0);
-        Check.due("not received: placeOf", order.placeOf(8), NONE);
-        Check.due("behind the order: orderAt", order.orderAt(8), NONE);
+    }
+
+    private static void orderedIs0AtFirst() {
+        for (int count : new int[] {0, 1, 4, 12, 15}) {
+            Check.due(count + " events: ordered", Runs.ring(count, 9).ordered(), 0);
+        }
+        Check.due("16 events: ordered", Runs.ring(16, 9).ordered(), 8);
+    }
+
+    private static void orderAtNoPlaceIsNone() {
+        Edges.askOfNoEvent("orderAt", GossipOrder::orderAt, NONE);
+        GossipOrder order = Runs.ring(16, 9);
+        Check.due("the last place: orderAt(7)", order.orderAt(7), 7);
+        for (int k = 8; k < 16; k++) {
+            Check.due("behind it: orderAt(" + k + ")", order.orderAt(k), NONE);
+        }
+        for (int k = 0; k < 15; k++) {
+            Check.due("no order: orderAt(" + k + ")", Runs.ring(15, 9).orderAt(k), NONE);
+        }
+    }
+
+    private static void placeOfNoEventIsBad() {
+        Edges.askOfNoEvent("placeOf", GossipOrder::placeOf, BAD);
+    }
+
+    private static void placeOfAnEventNotReceivedIsNone() {
+        for (int count : new int[] {1, 4, 15, 16, 47, 48}) {
+            GossipOrder order = Runs.ring(count, 9);
+            Check.due(count + " events: placeOf(last)", order.placeOf(count - 1), NONE);
+        }
+        Check.due("the last received: placeOf(7)", Runs.ring(16, 9).placeOf(7), 7);
+        Check.due("behind it: placeOf(8)", Runs.ring(16, 9).placeOf(8), NONE);
+    }
+
+    private static void digestOfNoOrderIs0() {
+        for (int count : new int[] {0, 1, 4, 12, 15}) {
+            Check.due(count + " events: digest", Runs.ring(count, 9).digest(), 0);
+        }
+        Check.due("16 events: digest", Runs.ring(16, 9).digest(), 204);
+    }
+
+    /** The squares of 1 .. 40; those of 1 .. 48 make 38024, so no digest is great enough to wrap. */
+    private static void digestOfTheLongestRing() {
+        Check.due("48 events: digest", Runs.ring(48, 9).digest(), 22140);
+        Check.due("48 events, falling times: digest", Runs.ring(48, falling()).digest(), fallingDigest());
+    }
+
+    /** Places 8 .. 39 as told above; before them, by hand, the order of round 2. */
+    private static int fallingDigest() {
+        int[] round2 = {7, 2, 6, 1, 5, 0, 4, 3};
+        int sum = 0;
+        for (int k = 0; k < 40; k++) {
+            int x = k < 8 ? round2[k] : k / 4 * 4 + 3 - k % 4;
+            sum += (k + 1) * (x + 1);
+        }
+        return sum;
     }
 }

@@ -44,7 +44,60 @@ final class Runs {
         {0, 9}, {3, 10}, {2, 10}, {2, 11}, {0, 13}, {1, 11}, {1, 14}, {0, 16}, {2, 17}, {3, 16},
     };
 
-    static final int[][][] RARE = {LONG_OPEN, LONG_OPEN_THEN_NO, LONG_OPEN_THEN_YES, LATE_DECIDER};
+    /** One of the four witnesses of round 1 is well under event 7, all four are well under event 8. */
+    static final int[][] FOUR_AT_ONCE = {
+        {0, -1}, {1, -1}, {2, -1}, {3, -1}, {1, 2}, {0, 1}, {0, 3}, {1, 6}, {3, 7},
+    };
+
+    /**
+     * On event 3, each of the witnesses 12, 13, 14, 15 of round 3 hears two say yes (9, 10) and two
+     * say no (7, 8); event 16 of round 4 hears of three of them. Found by a search.
+     */
+    static final int[][] TIES = {
+        {0, -1}, {1, -1}, {2, -1}, {3, -1}, {2, 0}, {2, 1}, {0, 5}, {1, 6},
+        {2, 7}, {3, 8}, {0, 9}, {3, 10}, {2, 11}, {0, 12}, {3, 13}, {1, 14}, {0, 15},
+    };
+
+    /** Event 14 of round 3 is the first to hear of event 0, and hears all four say yes. Found by a search. */
+    static final int[][] FOUR_SAY_YES = {
+        {0, -1}, {1, -1}, {2, -1}, {3, -1}, {3, 1}, {3, 2}, {1, 5}, {0, 6},
+        {2, 7}, {1, 4}, {3, 8}, {1, 10}, {3, 6}, {3, 11}, {0, 13},
+    };
+
+    /** Event 15 of round 3 is the first to hear of event 3: one says yes, three say no. Found by a search. */
+    static final int[][] ONE_SAYS_YES = {
+        {0, -1}, {1, -1}, {2, -1}, {3, -1}, {0, 2}, {0, 1}, {2, 5}, {3, 6},
+        {1, 4}, {1, 6}, {2, 9}, {0, 10}, {1, 7}, {1, 2}, {1, 11}, {2, 14},
+    };
+
+    /**
+     * If of the witnesses of round 6 (23 .. 26) the coins of 25 and 26 alone are true, the fame of
+     * event 3 is open until round 11, ten rounds on, where 43, 44, 45 vote by their coins; the last
+     * event that there can be, of round 12, decides it by their votes. Found by a search.
+     */
+    static final int[][] OPEN_TEN_ROUNDS = {
+        {0, -1}, {1, -1}, {2, -1}, {3, -1}, {0, 1}, {2, 4}, {0, 5}, {1, 6},
+        {0, 7}, {3, 8}, {2, 9}, {1, 10}, {2, 11}, {0, 12}, {3, 13}, {1, 14},
+        {3, 15}, {0, 16}, {2, 17}, {3, 18}, {2, 19}, {1, 20}, {2, 21}, {3, 22},
+        {0, 23}, {1, 24}, {2, 25}, {3, 26}, {2, 27}, {0, 28}, {1, 29}, {3, 30},
+        {1, 31}, {0, 32}, {2, 33}, {3, 34}, {2, 35}, {1, 36}, {0, 37}, {2, 38},
+        {3, 39}, {1, 40}, {3, 41}, {0, 42}, {3, 43}, {1, 44}, {2, 45}, {0, 46},
+    };
+
+    /**
+     * If of the witnesses of round 6 the coins of 23 and 26 alone are true, the fame of event 3 is
+     * open until round 11 too; there event 43 hears three say no. Found by a search.
+     */
+    static final int[][] NO_AFTER_TEN_ROUNDS = {
+        {0, -1}, {1, -1}, {2, -1}, {3, -1}, {2, 1}, {0, 4}, {1, 5}, {2, 6},
+        {1, 7}, {3, 8}, {0, 9}, {2, 10}, {0, 11}, {3, 12}, {1, 13}, {2, 14},
+        {1, 15}, {0, 16}, {3, 17}, {1, 18}, {0, 19}, {3, 20}, {1, 21}, {2, 22},
+        {1, 23}, {0, 24}, {3, 25}, {2, 26}, {3, 27}, {1, 28}, {0, 29}, {3, 30},
+        {0, 31}, {2, 32}, {1, 33}, {0, 34}, {1, 35}, {3, 36}, {0, 37}, {2, 38},
+        {0, 39}, {1, 40}, {3, 41}, {0, 42},
+    };
+
+    static final int[][][] RARE = {LONG_OPEN, LONG_OPEN_THEN_NO, LONG_OPEN_THEN_YES, LATE_DECIDER, TIES};
 
     private Runs() {
     }
@@ -89,6 +142,15 @@ final class Runs {
             times[n] = 10 * n;
         }
         return times;
+    }
+
+    /** The first events of a run, with the times 0, 1, 2, .. and one coin for all. */
+    static GossipOrder play(int[][] run, int events, boolean coin) {
+        GossipOrder order = new GossipOrder();
+        for (int n = 0; n < events; n++) {
+            step(order, run[n], n, coin);
+        }
+        return order;
     }
 
     static int step(GossipOrder order, int[] makerAndOther, int time, boolean coin) {

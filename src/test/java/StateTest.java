@@ -1,0 +1,160 @@
+import java.util.ArrayList;
+import java.util.List;
+import java.util.Map;
+import java.util.Random;
+
+/** What holds of all calls: refused ones and questions change nothing, all 512 calls count, none throws. */
+final class StateTest {
+    private static final int ALONE = Integer.MAX_VALUE;
+
+    private record Refusal(int member, int other, int due) {
+        int call(GossipOrder order) {
+            return other == ALONE ? order.alone(member, 77, true) : order.gossip(member, other, 77, true);
+        }
+
+        @Override
+        public String toString() {
+            return other == ALONE ? "alone(" + member + ")" : "gossip(" + member + ", " + other + ")";
+        }
+    }
+
+    private record Asked(String name, Edges.Question question) {
+    }
+
+    private static final List<Asked> QUESTIONS = List.of(
+            new Asked("events", (order, x) -> order.events()),
+            new Asked("latest", GossipOrder::latest),
+            new Asked("under", (order, x) -> order.under(x, order.events() - 1)),
+            new Asked("wellUnder", (order, x) -> order.wellUnder(x, order.events() - 1)),
+            new Asked("round", GossipOrder::round),
+            new Asked("witness", GossipOrder::witness),
+            new Asked("witnesses", GossipOrder::witnesses),
+            new Asked("fame", GossipOrder::fame),
+            new Asked("decider", GossipOrder::decider),
+            new Asked("settled", (order, x) -> order.settled()),
+            new Asked("received", GossipOrder::received),
+            new Asked("finalTime", GossipOrder::finalTime),
+            new Asked("ordered", (order, x) -> order.ordered()),
+            new Asked("orderAt", GossipOrder::orderAt),
+            new Asked("placeOf", GossipOrder::placeOf),
+            new Asked("digest", (order, x) -> order.digest()));
+
+    private StateTest() {
+    }
+
+    public static void main(String[] args) {
+        refusedCallsChangeNothing();
+        questionsChangeNothing();
+        the512thCallAnswers();
+        noCallThrows();
+        Check.end();
+    }
+
+    /** All the ways to be refused in the ring of three, where member 3 has made no event. */
+    private static List<Refusal> refusals(int count) {
+        List<Refusal> all = new ArrayList<>();
+        for (int member : new int[] {-1, 4}) {
+            all.add(new Refusal(member, ALONE, GossipOrder.BAD));
+            all.add(new Refusal(member, 0, GossipOrder.BAD));
+        }
+        all.add(new Refusal(0, -1, GossipOrder.BAD));
+        all.add(new Refusal(0, count, GossipOrder.BAD));
+        if (count > 0) {
+            all.add(new Refusal(0, 0, GossipOrder.BAD));
+            all.add(new Refusal(3, count - 1, GossipOrder.NONE));
+        }
+        if (count == 48) {
+            all.add(new Refusal(0, ALONE, GossipOrder.FULL));
+            all.add(new Refusal(3, ALONE, GossipOrder.FULL));
+            all.add(new Refusal(0, 47, GossipOrder.FULL));
+        }
+        return all;
+    }
+
+    private static void refusedCallsChangeNothing() {
+        for (int count : new int[] {0, 1, 5, 14, 47, 48}) {
+            Map<String, Integer> then = Answers.of(count, new Subject(count, () -> Runs.ringOfThree(count, 3, 1, 2)));
+            Map<String, Integer> atLast = Answers.of(48, new Subject(48, () -> Runs.ringOfThree(48, 3, 1, 2)));
+            for (Refusal refusal : refusals(count)) {
+                String what = count + " events, refused " + refusal + ": ";
+                Subject refused = new Subject(count + 3, () -> refuse(refusal, count, count));
+                Answers.compare(what, Answers.of(count, refused), then);
+                Subject goneOn = new Subject(51, () -> refuse(refusal, count, 48));
+                Answers.compare(what + "then, at last, ", Answers.of(48, goneOn), atLast);
+            }
+        }
+    }
+
+    /** A ring of three that is refused three times when there are so many events. */
+    private static GossipOrder refuse(Refusal refusal, int count, int events) {
+        GossipOrder order = Runs.ringOfThree(count, 3, 1, 2);
+        for (int time = 0; time < 3; time++) {
+            Check.due(count + " events: " + refusal, refusal.call(order), refusal.due());
+        }
+        for (int n = count; n < events; n++) {
+            Runs.stepRing(order, 3, n, new int[] {3, 1, 2}[n % 3]);
+        }
+        return order;
+    }
+
+    private static void questionsChangeNothing() {
+        for (int[][] run : Runs.RARE) {
+            int events = run.length;
+            Map<String, Integer> due = Answers.of(events, new Subject(events, () -> Runs.play(run, events, true)));
+            for (Asked asked : QUESTIONS) {
+                Subject subject = new Subject(9 * events, () -> playAndAsk(run, asked.question()));
+                String what = events + " events, asked " + asked.name() + " all the time: ";
+                Answers.compare(what, Answers.of(events, subject), due);
+            }
+        }
+    }
+
+    /** Asks after each event, four times, of numbers good and not; that may be two calls each. */
+    private static GossipOrder playAndAsk(int[][] run, Edges.Question question) {
+        GossipOrder order = new GossipOrder();
+        for (int n = 0; n < run.length; n++) {
+            Runs.step(order, run[n], n, true);
+            for (int x : new int[] {-1, n / 2, n, n + 1}) {
+                question.ask(order, x);
+            }
+        }
+        return order;
+    }
+
+    private static void the512thCallAnswers() {
+        GossipOrder early = Runs.ring(48, 9);
+        for (int call = 49; call <= 512; call++) {
+            Check.due("call " + call + ": digest", early.digest(), 22140);
+        }
+        GossipOrder late = new GossipOrder();
+        for (int call = 1; call <= 464; call++) {
+            Check.due("call " + call + ": events", late.events(), 0);
+        }
+        for (int call = 465; call <= 512; call++) {
+            Check.due("call " + call + ": a making", Runs.stepRing(late, 4, call - 465, 9), call - 465);
+        }
+    }
+
+    /** An exception ends this test; what is answered is tested elsewhere. */
+    private static void noCallThrows() {
+        Random random = new Random(7);
+        for (int run = 0; run < 40; run++) {
+            GossipOrder order = new GossipOrder();
+            for (int call = 0; call < 1000; call++) {
+                int member = wild(random, 4);
+                int other = wild(random, 48);
+                order.alone(member, random.nextInt(), random.nextBoolean());
+                order.gossip(member, other, random.nextInt(), random.nextBoolean());
+                order.under(other, wild(random, 48));
+                order.wellUnder(other, wild(random, 48));
+                for (Asked asked : QUESTIONS) {
+                    asked.question().ask(order, wild(random, 48));
+                }
+            }
+        }
+    }
+
+    private static int wild(Random random, int end) {
+        return random.nextInt(4) == 0 ? random.nextInt() : random.nextInt(end + 2) - 1;
+    }
+}
