@@ -23,6 +23,7 @@ final class KnowingTest {
         twoWitnessesMakeNoRound();
         fourWitnessesMakeARound();
         twoMembersStayInRoundOne();
+        anOldOtherParentKeepsTheRound();
         lateMemberSkipsRounds();
         roundOfNoEventIsBad();
         witnessOfNoEventIsBad();
@@ -51,13 +52,21 @@ final class KnowingTest {
         }
     }
 
-    private static void underOfNoEventIsBad() {
-        Edges.askOfNoEvent("under(0, x): x = ", (order, x) -> order.under(0, x), BAD);
-        Edges.askOfNoEvent("under(x, 0): x = ", (order, x) -> order.under(x, 0), BAD);
-        Edges.askOfNoEvent("under(x, x): x = ", (order, x) -> order.under(x, x), BAD);
+    private interface Pair {
+        int ask(GossipOrder order, int x, int y);
+    }
+
+    private static void pairWithNoEventIsBad(String name, Pair pair) {
+        Edges.askOfNoEvent(name + ": y not good", (order, x) -> pair.ask(order, 0, x), BAD);
+        Edges.askOfNoEvent(name + ": x not good", (order, x) -> pair.ask(order, x, 0), BAD);
+        Edges.askOfNoEvent(name + ": both not good", (order, x) -> pair.ask(order, x, x), BAD);
         GossipOrder order = Runs.ring(16, 0);
-        Check.due("ends: under(0, 15)", order.under(0, 15), 1);
-        Check.due("ends: under(15, 0)", order.under(15, 0), 0);
+        Check.due(name + ": first and last", pair.ask(order, 0, 15), 1);
+        Check.due(name + ": last and first", pair.ask(order, 15, 0), 0);
+    }
+
+    private static void underOfNoEventIsBad() {
+        pairWithNoEventIsBad("under", GossipOrder::under);
     }
 
     private static void wellUnderInRing() {
@@ -97,12 +106,7 @@ final class KnowingTest {
     }
 
     private static void wellUnderOfNoEventIsBad() {
-        Edges.askOfNoEvent("wellUnder(0, x): x = ", (order, x) -> order.wellUnder(0, x), BAD);
-        Edges.askOfNoEvent("wellUnder(x, 0): x = ", (order, x) -> order.wellUnder(x, 0), BAD);
-        Edges.askOfNoEvent("wellUnder(x, x): x = ", (order, x) -> order.wellUnder(x, x), BAD);
-        GossipOrder order = Runs.ring(16, 0);
-        Check.due("ends: wellUnder(0, 15)", order.wellUnder(0, 15), 1);
-        Check.due("ends: wellUnder(15, 0)", order.wellUnder(15, 0), 0);
+        pairWithNoEventIsBad("wellUnder", GossipOrder::wellUnder);
     }
 
     private static void roundsInRing() {
@@ -170,6 +174,15 @@ final class KnowingTest {
         }
         Check.due("two: witnesses(1)", order.witnesses(1), 2);
         Check.due("two: settled", order.settled(), 0);
+    }
+
+    private static void anOldOtherParentKeepsTheRound() {
+        GossipOrder order = Runs.ring(16, 0);
+        Check.due("old: gossip", order.gossip(3, 0, 0, false), 16);
+        Check.due("old: round of the own parent", order.round(15), 4);
+        Check.due("old: round of the other parent", order.round(0), 1);
+        Check.due("old: round", order.round(16), 4);
+        Check.due("old: witness", order.witness(16), 0);
     }
 
     private static void lateMemberSkipsRounds() {

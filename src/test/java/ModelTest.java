@@ -26,6 +26,7 @@ final class ModelTest {
     }
 
     private static void play(int run, Random random) {
+        String what = "run " + run;
         Model model = new Model();
         List<Call> calls = new ArrayList<>();
         int[] deciders = {};
@@ -38,13 +39,13 @@ final class ModelTest {
             int time = time(random, n, run);
             int[] next = n < start ? opening[n] : choose(model, random, silent);
             add(calls, model, new Call(next[1] < 0, next[0], next[1], time, random.nextBoolean()));
-            Subject order = new Subject(calls.size(), () -> replay(calls));
-            compare("run " + run + ", event " + n, order, model);
+            Subject order = new Subject(calls.size(), () -> replay(what, calls));
+            compare(what + ", event " + n, order, model);
             countMoved(order, deciders);
             deciders = deciders(order, model);
         }
-        Subject order = new Subject(calls.size(), () -> replay(calls));
-        comparePairs("run " + run, order, model);
+        Subject order = new Subject(calls.size(), () -> replay(what, calls));
+        comparePairs(what, order, model);
         countEdges(order, model);
     }
 
@@ -72,14 +73,14 @@ final class ModelTest {
         calls.add(call);
     }
 
-    private static GossipOrder replay(List<Call> calls) {
+    private static GossipOrder replay(String what, List<Call> calls) {
         GossipOrder order = new GossipOrder();
         for (Call call : calls) {
             int answer = call.alone
                     ? order.alone(call.member, call.time, call.coin)
                     : order.gossip(call.member, call.other, call.time, call.coin);
             String name = call.alone ? "alone(" + call.member : "gossip(" + call.member + ", " + call.other;
-            Check.due(order.events() + " events: " + name + ")", answer, call.due);
+            Check.due(what + ", call " + calls.indexOf(call) + ": " + name + ")", answer, call.due);
         }
         return order;
     }

@@ -19,6 +19,7 @@ final class OrderTest {
         finalTimeIsTheMiddleOfThree();
         finalTimeTakesTheEarliestByNumber();
         finalTimeMayBeOfTheFamousThemselves();
+        finalTimeMayBeOfAnEventMadeAlone();
         finalTimesAtTheEnds();
         finalTimeOfNoEventIs0();
         finalTimeOfAnEventNotReceivedIs0();
@@ -95,11 +96,12 @@ final class OrderTest {
         checkOrder("three: ", order, events, times);
     }
 
-    /** Events 15 and 16 are late witnesses of rounds 1 and 2: nothing that is ordered is under them. */
+    /** Events 15 and 16 are late witnesses of rounds 1 and 2; event 6 is under 6, 7, 8, but not under 16. */
     private static void aWitnessThatIsNotFamousCountsForNothing() {
         GossipOrder order = Runs.ringOfThree(15, Runs.tens());
-        order.alone(3, LEAST, false);
-        order.gossip(3, 6, LEAST, false);
+        order.alone(3, MOST, false);
+        order.gossip(3, 5, MOST, false);
+        Check.due("late: under(6, 16)", order.under(6, 16), 0);
         Check.due("late: a witness", order.witness(16), 1);
         Check.due("late: of round 2", order.round(16), 2);
         Check.due("late: fame(15)", order.fame(15), 1);
@@ -116,13 +118,19 @@ final class OrderTest {
         Edges.askOfNoEvent("received", GossipOrder::received, BAD);
     }
 
-    private static void receivedOfAnEventNotReceivedIsNone() {
+    /** With 16 events of the ring, 0 .. 7 are received; the last one never is. */
+    private static void askOfNotReceived(String call, Edges.Question question, int due, int dueOfReceived) {
         for (int count : new int[] {1, 4, 15, 16, 47, 48}) {
             GossipOrder order = Runs.ring(count, 9);
-            Check.due(count + " events: received(last)", order.received(count - 1), NONE);
+            Check.due(count + " events: " + call + "(last)", question.ask(order, count - 1), due);
         }
-        Check.due("the last received: received(7)", Runs.ring(16, 9).received(7), 2);
-        Check.due("behind it: received(8)", Runs.ring(16, 9).received(8), NONE);
+        GossipOrder order = Runs.ring(16, 9);
+        Check.due("received: " + call + "(7)", question.ask(order, 7), dueOfReceived);
+        Check.due("not received: " + call + "(8)", question.ask(order, 8), due);
+    }
+
+    private static void receivedOfAnEventNotReceivedIsNone() {
+        askOfNotReceived("received", GossipOrder::received, NONE, 2);
     }
 
     /** As before, but of the times 0, -5, -6, -7 since when event 0 is known the middle one is -5. */
@@ -141,6 +149,18 @@ final class OrderTest {
     /** The makers of 7, 8, 9, 10 know of event 7 by these: all their other events under them are before it. */
     private static void finalTimeMayBeOfTheFamousThemselves() {
         Check.due("themselves: finalTime(7)", Runs.ring(16, Runs.tens()).finalTime(7), 90);
+    }
+
+    /** Event 3 is made alone at 100; of it know member 0 since 100, member 1 since 5, member 2 since 6. */
+    private static void finalTimeMayBeOfAnEventMadeAlone() {
+        GossipOrder order = Runs.ringOfThree(3, 0);
+        order.alone(0, 100, false);
+        order.gossip(0, 2, 4, false);
+        for (int n = 5; n < 16; n++) {
+            order.gossip((n - 1) % 3, n - 1, n, false);
+        }
+        Check.due("alone: received(3)", order.received(3), 2);
+        Check.due("alone: finalTime(3)", order.finalTime(3), 6);
     }
 
     private static void finalTimesAtTheEnds() {
@@ -162,12 +182,7 @@ final class OrderTest {
     }
 
     private static void finalTimeOfAnEventNotReceivedIs0() {
-        for (int count : new int[] {1, 4, 15, 16, 47, 48}) {
-            GossipOrder order = Runs.ring(count, 9);
-            Check.due(count + " events: finalTime(last)", order.finalTime(count - 1), 0);
-        }
-        Check.due("the last received: finalTime(7)", Runs.ring(16, 9).finalTime(7), 9);
-        Check.due("behind it: finalTime(8)", Runs.ring(16, 9).finalTime(8), 0);
+        askOfNotReceived("finalTime", GossipOrder::finalTime, 0, 9);
     }
 
     /** From round 3 on the four events of a round are known since the four events from each on. */
@@ -214,12 +229,7 @@ final class OrderTest {
     }
 
     private static void placeOfAnEventNotReceivedIsNone() {
-        for (int count : new int[] {1, 4, 15, 16, 47, 48}) {
-            GossipOrder order = Runs.ring(count, 9);
-            Check.due(count + " events: placeOf(last)", order.placeOf(count - 1), NONE);
-        }
-        Check.due("the last received: placeOf(7)", Runs.ring(16, 9).placeOf(7), 7);
-        Check.due("behind it: placeOf(8)", Runs.ring(16, 9).placeOf(8), NONE);
+        askOfNotReceived("placeOf", GossipOrder::placeOf, NONE, 7);
     }
 
     private static void digestOfNoOrderIs0() {

@@ -58,13 +58,13 @@ final class Runs {
         {2, 7}, {3, 8}, {0, 9}, {3, 10}, {2, 11}, {0, 12}, {3, 13}, {1, 14}, {0, 15},
     };
 
-    /** Event 14 of round 3 is the first to hear of event 0, and hears all four say yes. Found by a search. */
+    /** Event 14, the first of round 3, hears all four witnesses of round 2 say yes on event 0. Found by a search. */
     static final int[][] FOUR_SAY_YES = {
         {0, -1}, {1, -1}, {2, -1}, {3, -1}, {3, 1}, {3, 2}, {1, 5}, {0, 6},
         {2, 7}, {1, 4}, {3, 8}, {1, 10}, {3, 6}, {3, 11}, {0, 13},
     };
 
-    /** Event 15 of round 3 is the first to hear of event 3: one says yes, three say no. Found by a search. */
+    /** Event 15, the first of round 3, hears one witness say yes on event 3, three say no. Found by a search. */
     static final int[][] ONE_SAYS_YES = {
         {0, -1}, {1, -1}, {2, -1}, {3, -1}, {0, 2}, {0, 1}, {2, 5}, {3, 6},
         {1, 4}, {1, 6}, {2, 9}, {0, 10}, {1, 7}, {1, 2}, {1, 11}, {2, 14},

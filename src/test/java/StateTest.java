@@ -6,10 +6,13 @@ import java.util.Random;
 /** What holds of all calls: refused ones and questions change nothing, all 512 calls count, none throws. */
 final class StateTest {
     private static final int ALONE = Integer.MAX_VALUE;
+    /** In no order, so that a time that was changed is seen in the order of the events. */
+    private static final int[] TIMES = {8, 3, 12, 1, 9, 4, 14, 6, 2, 11, 7};
+    private static final Edges.Question NOTHING = (order, x) -> 0;
 
     private record Refusal(int member, int other, int due) {
-        int call(GossipOrder order) {
-            return other == ALONE ? order.alone(member, 77, true) : order.gossip(member, other, 77, true);
+        int call(GossipOrder order, int time) {
+            return other == ALONE ? order.alone(member, time, true) : order.gossip(member, other, time, true);
         }
 
         @Override
@@ -73,47 +76,55 @@ final class StateTest {
 
     private static void refusedCallsChangeNothing() {
         for (int count : new int[] {0, 1, 5, 14, 47, 48}) {
-            Map<String, Integer> then = Answers.of(count, new Subject(count, () -> Runs.ringOfThree(count, 3, 1, 2)));
-            Map<String, Integer> atLast = Answers.of(48, new Subject(48, () -> Runs.ringOfThree(48, 3, 1, 2)));
+            Map<String, Integer> then = Answers.of(count, new Subject(count, () -> Runs.ringOfThree(count, TIMES)));
+            Map<String, Integer> atLast = Answers.of(48, new Subject(48, () -> Runs.ringOfThree(48, TIMES)));
             for (Refusal refusal : refusals(count)) {
-                String what = count + " events, refused " + refusal + ": ";
-                Subject refused = new Subject(count + 3, () -> refuse(refusal, count, count));
-                Answers.compare(what, Answers.of(count, refused), then);
-                Subject goneOn = new Subject(51, () -> refuse(refusal, count, 48));
-                Answers.compare(what + "then, at last, ", Answers.of(48, goneOn), atLast);
+                for (int time : new int[] {-77, 77}) {
+                    String what = count + " events, refused " + refusal + ": ";
+                    Subject refused = new Subject(count + 2, () -> refuse(refusal, time, count, count));
+                    Answers.compare(what, Answers.of(count, refused), then);
+                    Subject goneOn = new Subject(50, () -> refuse(refusal, time, count, 48));
+                    Answers.compare(what + "then, at last, ", Answers.of(48, goneOn), atLast);
+                }
             }
         }
     }
 
-    /** A ring of three that is refused three times when there are so many events. */
-    private static GossipOrder refuse(Refusal refusal, int count, int events) {
-        GossipOrder order = Runs.ringOfThree(count, 3, 1, 2);
-        for (int time = 0; time < 3; time++) {
-            Check.due(count + " events: " + refusal, refusal.call(order), refusal.due());
-        }
+    /** A ring of three that is refused twice when there are so many events. */
+    private static GossipOrder refuse(Refusal refusal, int time, int count, int events) {
+        GossipOrder order = Runs.ringOfThree(count, TIMES);
+        Check.due(count + " events: " + refusal, refusal.call(order, time), refusal.due());
+        Check.due(count + " events: " + refusal + " again", refusal.call(order, time), refusal.due());
         for (int n = count; n < events; n++) {
-            Runs.stepRing(order, 3, n, new int[] {3, 1, 2}[n % 3]);
+            Runs.stepRing(order, 3, n, TIMES[n % TIMES.length]);
         }
         return order;
     }
 
     private static void questionsChangeNothing() {
         for (int[][] run : Runs.RARE) {
-            int events = run.length;
-            Map<String, Integer> due = Answers.of(events, new Subject(events, () -> Runs.play(run, events, true)));
-            for (Asked asked : QUESTIONS) {
-                Subject subject = new Subject(9 * events, () -> playAndAsk(run, asked.question()));
-                String what = events + " events, asked " + asked.name() + " all the time: ";
-                Answers.compare(what, Answers.of(events, subject), due);
+            for (int sign : new int[] {1, -1}) {
+                questionsChangeNothing(run, sign);
             }
         }
     }
 
+    /** What is due is asked of objects that are asked nothing else: with 511 calls used, each has but one left. */
+    private static void questionsChangeNothing(int[][] run, int sign) {
+        int events = run.length;
+        Map<String, Integer> due = Answers.of(events, new Subject(511, () -> playAndAsk(run, sign, NOTHING)));
+        for (Asked asked : QUESTIONS) {
+            Subject subject = new Subject(9 * events, () -> playAndAsk(run, sign, asked.question()));
+            String what = events + " events, asked " + asked.name() + " all the time: ";
+            Answers.compare(what, Answers.of(events, subject), due);
+        }
+    }
+
     /** Asks after each event, four times, of numbers good and not; that may be two calls each. */
-    private static GossipOrder playAndAsk(int[][] run, Edges.Question question) {
+    private static GossipOrder playAndAsk(int[][] run, int sign, Edges.Question question) {
         GossipOrder order = new GossipOrder();
         for (int n = 0; n < run.length; n++) {
-            Runs.step(order, run[n], n, true);
+            Runs.step(order, run[n], sign * TIMES[n % TIMES.length], true);
             for (int x : new int[] {-1, n / 2, n, n + 1}) {
                 question.ask(order, x);
             }
