@@ -42,12 +42,19 @@ final class StateTest {
             new Asked("placeOf", GossipOrder::placeOf),
             new Asked("digest", (order, x) -> order.digest()));
 
+    private static final List<Asked> REFUSED = List.of(
+            new Asked("alone of no member", (order, x) -> order.alone(4, 5, false)),
+            new Asked("gossip of no member", (order, x) -> order.gossip(-1, 0, 5, false)),
+            new Asked("gossip with no event", (order, x) -> order.gossip(0, 48, 5, false)),
+            new Asked("gossip with an own event", (order, x) -> order.gossip(2, order.latest(2), 5, false)));
+
     private StateTest() {
     }
 
     public static void main(String[] args) {
         refusedCallsChangeNothing();
-        questionsChangeNothing();
+        refusedCallsAllTheTimeChangeNothing();
+        questionsAllTheTimeChangeNothing();
         the512thCallAnswers();
         noCallThrows();
         Check.end();
@@ -101,26 +108,31 @@ final class StateTest {
         return order;
     }
 
-    private static void questionsChangeNothing() {
+    private static void refusedCallsAllTheTimeChangeNothing() {
         for (int[][] run : Runs.RARE) {
-            for (int sign : new int[] {1, -1}) {
-                questionsChangeNothing(run, sign);
-            }
+            changeNothing(run, 1, REFUSED);
+        }
+    }
+
+    private static void questionsAllTheTimeChangeNothing() {
+        for (int[][] run : Runs.RARE) {
+            changeNothing(run, 1, QUESTIONS);
+            changeNothing(run, -1, QUESTIONS);
         }
     }
 
     /** What is due is asked of objects that are asked nothing else: with 511 calls used, each has but one left. */
-    private static void questionsChangeNothing(int[][] run, int sign) {
+    private static void changeNothing(int[][] run, int sign, List<Asked> calls) {
         int events = run.length;
         Map<String, Integer> due = Answers.of(events, new Subject(511, () -> playAndAsk(run, sign, NOTHING)));
-        for (Asked asked : QUESTIONS) {
+        for (Asked asked : calls) {
             Subject subject = new Subject(9 * events, () -> playAndAsk(run, sign, asked.question()));
-            String what = events + " events, asked " + asked.name() + " all the time: ";
+            String what = events + " events, " + asked.name() + " all the time: ";
             Answers.compare(what, Answers.of(events, subject), due);
         }
     }
 
-    /** Asks after each event, four times, of numbers good and not; that may be two calls each. */
+    /** Asks four times after each event, of numbers good and not; that may be two calls each. */
     private static GossipOrder playAndAsk(int[][] run, int sign, Edges.Question question) {
         GossipOrder order = new GossipOrder();
         for (int n = 0; n < run.length; n++) {
